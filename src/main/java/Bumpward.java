@@ -18,6 +18,7 @@ public final class Bumpward {
     private static final int UP = 0;
     private static final int RIGHT = 1;
     private static final int DOWN = 2;
+    private static final int LEFT = 3;
 
     private static final int MOST_WALKERS = 3;
     private static final int MOST_MINUTES = 3000;
@@ -301,7 +302,7 @@ public final class Bumpward {
             case 0:
                 return who.wayHome();
             case 1:
-                return who.costHome();
+                return Walker.costOf(who.wayHome());
             case 2:
                 return asNumber(who.isSafe());
             default:
@@ -772,11 +773,11 @@ public final class Bumpward {
         }
 
         private long withNeighbours(long cells) {
-            long reached = cells;
-            for (int side = 0; side < SIDES; side++) {
-                reached |= Grid.moved(cells & free[side], side);
-            }
-            return reached;
+            long above = (cells & free[UP]) >>> WIDTH;
+            long right = (cells & free[RIGHT]) << 1;
+            long below = (cells & free[DOWN]) << WIDTH;
+            long left = (cells & free[LEFT]) >>> 1;
+            return cells | above | right | below | left;
         }
 
         int wayBetween(int from, int to) {
@@ -829,7 +830,7 @@ public final class Bumpward {
 
         void setOnly(int pose) {
             for (int facing = 0; facing < SIDES; facing++) {
-                cells[facing] = facing == pose % SIDES ? 1L << pose / SIDES : 0L;
+                cells[facing] = facing == pose % SIDES ? 1L << (pose / SIDES) : 0L;
             }
         }
 
@@ -859,7 +860,7 @@ public final class Bumpward {
                 return NONE;
             }
             for (int pose = 0; pose < POSES; pose++) {
-                if (holds(pose)) {
+                if (Grid.has(cells[pose % SIDES], pose / SIDES)) {
                     return pose;
                 }
             }
@@ -1009,13 +1010,13 @@ public final class Bumpward {
             return sure == NONE ? NOT_SURE : map.wayBetween(sure / SIDES, home);
         }
 
-        int costHome() {
-            int way = wayHome();
+        /** NONE and NOT_SURE stay what they are. */
+        static int costOf(int way) {
             return way < 0 ? way : 2 * way + 2;
         }
 
         boolean isSafe() {
-            int cost = costHome();
+            int cost = costOf(wayHome());
             return cost < 0 ? charge > CHARGE_WITHOUT_RETURN : charge - 1 >= cost;
         }
 

@@ -9,6 +9,7 @@ public final class DealsTest {
         promise11TellPose();
         promise12Meet();
         promise12MeetLearns();
+        promise12DisputeBelow();
         promise12MeetRefused();
         promise13Pass();
         promise14Call();
@@ -85,6 +86,20 @@ public final class DealsTest {
             }
         }
         Due.same("meet: FREE and WALL", b.ofWalker(1, 5) * 10 + b.ofWalker(1, 6), 12);
+    }
+
+    private static void promise12DisputeBelow() {
+        Bumpward b = new Bumpward();
+        b.walker(14, 2, 100, true);
+        b.walker(14, 2, 100, true);
+        b.edge(14, 2, 1, 0);
+        b.feel(0, false);
+        b.edge(14, 2, 0, 0);
+        b.feel(1, false);
+        Due.same("meet: all known to both", b.meet(0, 1), 0);
+        Due.same("meet: one DISPUTE below", b.house(10), 1);
+        Due.same("meet: the first one keeps its WALL", b.map(0, 14, 2), 2);
+        Due.same("meet: the second one keeps FREE", b.map(1, 14, 2), 1);
     }
 
     private static void promise12MeetRefused() {

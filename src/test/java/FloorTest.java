@@ -59,6 +59,8 @@ public final class FloorTest {
         Due.same("edge: all HOURS", b.edge(34, 1, 2, 16777215), 0);
         Due.same("edge: no HOUR", b.edge(35, 0, 2, 0), 0);
         Due.same("edge: open ones", b.house(4), 1);
+        b.edge(0, 1, 2, 1);
+        Due.same("edge: open ones, the first EDGE too", b.house(4), 2);
         Due.same("edge: a DOOR told anew", b.edge(35, 3, 2, 2), 2);
         Due.same("edge: HOURS told anew", b.ofEdge(34, 1, 2), 2);
     }

@@ -189,6 +189,12 @@ public final class KnowledgeTest {
         Due.same("goal: around 8", b.safety(0, 3), 2);
         goTo(b, 0, 2);
         Due.same("goal: nearer ones first", b.safety(0, 3), 13);
+        Bumpward above = new Bumpward();
+        above.walker(14, 2, 100, true);
+        above.feel(0, false);
+        Due.same("goal: only the EDGE above is UNKNOWN", above.safety(0, 3), 14);
+        above.walker(0, 2, 100, true);
+        Due.same("goal: the first CELL", above.safety(1, 3), 0);
         Bumpward shut = new Bumpward();
         for (int side = 0; side < 4; side++) {
             shut.edge(14, side, 1, 0);

@@ -9,16 +9,19 @@ public final class ModelTest {
     private static final int RUNS = 400;
     private static final int CALLS = 500;
     private static final int KINDS = 28;
+    private static final int[] OPENING = {0, 0, 1, 2, 2, 2, 2, 2, 3, 3, 3};
 
     private final Random random;
     private final Bumpward real = new Bumpward();
     private final Model model = new Model();
     private final boolean isWild;
+    private final boolean isCrowded;
     private String text = "";
 
     private ModelTest(int run) {
         random = new Random(run);
         isWild = run % 4 == 0;
+        isCrowded = run % 2 == 1;
     }
 
     public static void main(String[] args) {
@@ -30,7 +33,7 @@ public final class ModelTest {
 
     private void go(int run) {
         for (int call = 0; call < CALLS; call++) {
-            int kind = call < 6 ? call % 3 : next();
+            int kind = call < OPENING.length ? OPENING[call] : next();
             int[] a = arguments(kind);
             String due = answer(false, kind, a);
             String got = answer(true, kind, a);
@@ -51,8 +54,11 @@ public final class ModelTest {
         if (roll < 54) {
             return 27;
         }
-        if (roll < 58) {
+        if (roll < 60) {
             return 10;
+        }
+        if (roll < 64) {
+            return 9;
         }
         int kind = random.nextInt(KINDS);
         boolean isFloor = kind < 3;
@@ -68,8 +74,13 @@ public final class ModelTest {
         return roll == 1 ? most + 1 : random.nextInt(most + 1);
     }
 
+    /** In crowded runs WALKERS and CARPETS are near one another, so that they SLIP and MEET. */
+    private int cellNumber() {
+        return isCrowded ? 14 + random.nextInt(2) + 6 * random.nextInt(2) : number(35);
+    }
+
     private int walkerNumber() {
-        return random.nextInt(isWild ? 40 : 100) == 0 ? random.nextInt(6) - 2 : random.nextInt(2 + random.nextInt(2));
+        return random.nextInt(isWild ? 40 : 100) == 0 ? random.nextInt(6) - 2 : random.nextInt(3);
     }
 
     private int flag(int of) {
@@ -83,9 +94,9 @@ public final class ModelTest {
             case 1:
                 return new int[] {isWild || random.nextInt(3) == 0 ? number(126) : 127};
             case 2:
-                return new int[] {number(35), flag(2), flag(8)};
+                return new int[] {cellNumber(), flag(2), flag(8)};
             case 3:
-                return new int[] {number(35), number(3), random.nextInt(3) == 0 ? number(40) : number(500), flag(2)};
+                return new int[] {cellNumber(), number(3), random.nextInt(3) == 0 ? number(40) : number(500), flag(2)};
             case 4:
             case 6:
             case 7:

@@ -48,6 +48,8 @@ public final class SumsTest {
         Due.so("isSound: BUMPS alone", b.isSound());
         b.edge(8, 0, 1, 0);
         Due.so("isSound: WRONG", b.isSound() && b.ofWalker(0, 8) == 1);
+        b.walker(0, 0, 1, true);
+        Due.so("isSound: the first POSE", b.isSound());
         Due.so("isSound: busy", busy().isSound());
     }
 
